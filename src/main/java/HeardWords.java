@@ -324,7 +324,7 @@ public final class HeardWords {
         }
         int needed = 0;
         for (int i = 0; i < words.size(); i++) {
-            if ((facts & ~provedWithout(withHolders(1 << i), land)) != 0) {
+            if ((facts & ~provedWithout(1 << i, land)) != 0) {
                 needed |= 1 << i;
             }
         }
@@ -585,17 +585,6 @@ public final class HeardWords {
         return bits;
     }
 
-    /** These words, and those that hold them at any depth. */
-    private int withHolders(int these) {
-        int bits = these;
-        for (int i = 0; i < words.size(); i++) {
-            if ((words.get(i).partBits & bits) != 0) {
-                bits |= 1 << i;
-            }
-        }
-        return bits;
-    }
-
     private int factsOf(int these) {
         int facts = 0;
         for (int i = 0; i < words.size(); i++) {
@@ -626,7 +615,7 @@ public final class HeardWords {
         return -1;
     }
 
-    /** Those of some words that are heard to the end of parts; with a word its parts must be among them. */
+    /** Those of some words that are heard to the end of parts; a word with a part that isn't among them is not. */
     private int heardToPartsEnd(int among, int land, Stand stand) {
         int heard = 0;
         for (int i = 0; i < words.size(); i++) {
@@ -720,7 +709,7 @@ public final class HeardWords {
 
     // ---- proof, orders, the judge
 
-    /** What is proved when some words, and all that hold them, are not heard. */
+    /** What is proved when some words, and so all that hold them, are not heard. */
     private int provedWithout(int without, int land) {
         int proved = now.shown;
         int among = allWords() & ~without;

@@ -144,6 +144,11 @@ public final class HeardTest {
         Due.due("13 ten rivals", z.least(3, 0, 0, 1), 10);
         z.show(4);
         Due.due("13 none is needed", z.least(3, 0, 0, 1), 1);
+        HeardWords j = chain();
+        Due.rule(j, 0, "may b=0;need 3 b=0;out h>0");
+        Due.due("13 kept out by the judge", j.least(0, 0, 0, 0), -5);
+        j.judge(1);
+        Due.due("13 let in by the judge", j.least(0, 0, 0, 0), 8);
     }
 
     private static void ends() {
@@ -187,12 +192,20 @@ public final class HeardTest {
         Due.due("15 no set at end 1", x.cut(4, 1, 0, 0), -5);
         Due.due("15 end 3", x.cut(4, 3, 0, 0), 8 + 2);
         Due.due("15 land 1", x.cut(4, 0, 1, 0), 0);
+        cutOfTheWordItself();
         HeardWords y = letter();
         y.word(6, 5, 32);
         y.hold(5, 4);
         Due.rule(y, 1, "out b=3");
         Due.due("15 own parts only, with what they hold", y.cut(5, 0, 1, 0), 1);
         Due.due("15 facts that a part doesn't show", y.cut(5, 0, 1, 1), 32);
+    }
+
+    private static void cutOfTheWordItself() {
+        HeardWords x = letter();
+        Due.rule(x, 0, "out b=4");
+        Due.due("15 no set, by rule 0", x.cut(4, 0, 0, 0), -5);
+        Due.due("15 no set for what is left", x.cut(4, 0, 0, 1), -5);
     }
 
     private static void cutSharedParts() {
@@ -245,6 +258,28 @@ public final class HeardTest {
         Due.due("16 land 1: itself isn't opened", x.opened(0, 1), 0);
         x.show(32);
         Due.due("16 to end 0, parts and all", x.opened(0, 0), -3);
+        HeardWords y = new HeardWords();
+        for (int i = 0; i < 4; i++) {
+            y.word(0, i / 2, 1 << i);
+        }
+        y.word(0, 2, 0);
+        Due.rule(y, 0, "may b=0;need 8 b=0|b=2;need 3 b=2;out h=0&b=0&s=7");
+        Due.rule(y, 0, "out h=0&k=0&b=1&s=9");
+        Due.due("16 with what the judge keeps out", y.opened(3, 0), 0);
+        y.judge(1);
+        Due.due("16 with what isn't shown", y.opened(3, 0), 0);
+        y.show(256);
+        Due.due("16 with what is shown and let in", y.opened(3, 0), 16);
+        y.show(512 + 256 + 8);
+        Due.due("16 itself isn't heard", y.opened(2, 0), -3);
+        Due.due("16 another person's", y.opened(1, 0), 0);
+        HeardWords z = new HeardWords();
+        z.word(0, 0, 1);
+        z.word(0, 1, 0);
+        Due.rule(z, 0, "may b=1;need 0 b=1");
+        Due.due("16 kept out by the judge", z.opened(0, 0), 0);
+        z.judge(1);
+        Due.due("16 let in by the judge", z.opened(0, 0), 2);
     }
 
     private static void wrongNumbers() {

@@ -8,6 +8,7 @@ public final class JudgeAndLandsTest {
         silent();
         hangs();
         hangsThroughParts();
+        hangsWithWhatIsShown();
         most();
         beside();
         Due.finish();
@@ -36,12 +37,26 @@ public final class JudgeAndLandsTest {
         Due.due("20 let in", x.clash(0, 0, 1), 0);
         x.show(8);
         Due.due("20 three ins", x.clash(0, 0, 0), 3);
+        clashOfIns();
         Due.due("20 word", x.clash(2, 0, 0), -1);
         Due.due("20 word", x.clash(-1, 0, 0), -1);
         Due.due("20 end", x.clash(0, 4, 0), -1);
         Due.due("20 end", x.clash(0, -1, 0), -1);
         Due.due("20 land", x.clash(0, 0, 2), -1);
         Due.due("20 land", x.clash(0, 0, -1), -1);
+    }
+
+    private static void clashOfIns() {
+        HeardWords x = new HeardWords();
+        x.word(0, 0, 0);
+        Due.rule(x, 0, "out b=0");
+        Due.rule(x, 0, "in b=1;need 2 b=0");
+        Due.rule(x, 0, "may b=0");
+        x.judge(4);
+        x.show(4);
+        Due.due("20 no in that holds", x.clash(0, 0, 0), 0);
+        Due.rule(x, 0, "out b=3;in b=1|b=0");
+        Due.due("20 an in that overcomes no out", x.clash(0, 0, 0), 1);
     }
 
     private static void silent() {
@@ -102,6 +117,23 @@ public final class JudgeAndLandsTest {
         Due.rule(x, 0, "may b=2;in h=0");
         Due.due("22 the last is kept out", x.hangs(0), 4);
         Due.due("22 to end 1 alone", x.hangs(1), 1);
+    }
+
+    private static void hangsWithWhatIsShown() {
+        HeardWords x = new HeardWords();
+        x.word(0, 0, 0);
+        x.word(6, 1, 0);
+        x.hold(1, 0);
+        Due.rule(x, 0, "may b=0&s=1;need 2 k<9;out h>0");
+        Due.due("22 kept out by what isn't shown", x.hangs(0), 0);
+        x.show(4);
+        Due.due("22 it doesn't hold", x.hangs(0), 0);
+        x.show(6);
+        Due.due("22 all of word 0, and what holds it but for end 1", x.hangs(0), 4 + 3);
+        Due.rule(x, 0, "may b=1");
+        Due.due("22 with another one's leave", x.hangs(0), 4);
+        x.judge(2);
+        Due.due("22 with it", x.hangs(0), 7);
     }
 
     private static void most() {

@@ -63,6 +63,14 @@ public final class ProofTest {
         Due.rule(y, 0, "out h=0&k=0&s=9");
         Due.rule(y, 0, "out h=0&s=0");
         Due.due("17 none is heard before", y.proved(0), 3);
+        HeardWords j = new HeardWords();
+        j.word(0, 0, 1);
+        j.word(0, 1, 2);
+        Due.rule(j, 0, "may b=0;out h>0;need 0 b=1");
+        Due.due("17 kept out by the judge", j.proved(0), 0);
+        j.judge(1);
+        Due.due("17 let in by the judge", j.proved(0), 3);
+        Due.due("18 let in by the judge", j.needed(2, 0), 3);
         HeardWords z = new HeardWords();
         z.word(0, 0, 1);
         z.word(6, 1, 2);
@@ -191,6 +199,15 @@ public final class ProofTest {
         plan(x, 32 + 16 + 8 + 4 + 2, 0, 4, 3, 2, 1, 5);
         Due.rule(x, 0, "out s=1&!s=0");
         plan(x, 32 + 16 + 8 + 4 + 2, 0, 4, 3, 2, 5, 1);
+        Due.rule(x, 0, "may b=2");
+        plan(x, 8 + 4, 0);
+        x.judge(8);
+        plan(x, 8 + 4, 0);
+        x.show(16);
+        plan(x, 8 + 4, 0, 3, 2);
+        x.judge(0);
+        plan(x, 8 + 4, 0);
+        x.show(0);
         Due.rule(x, 1, "out s=0;out s=9&!s=8");
         plan(x, 1 + 512 + 256 + 2, 1, 1, 8, 9, 0);
     }

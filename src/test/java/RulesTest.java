@@ -147,6 +147,11 @@ public final class RulesTest {
         fault("in !(!(k=1|!k=2))", 11);
         fault("in ((((k=1&(k=2)))))", 11);
         fault("in ((((k=1)&(k=2)|!!k=1)))", 19);
+        HeardWords y = new HeardWords();
+        Due.rule(y, 0, "out k=1&k=2;in k=3");
+        Due.due("8 what stood there before is gone", Due.rule(y, 0, "out k=1&"), -18);
+        Due.due("8 what stood there before is gone", Due.rule(y, 0, "out k=1"), 1);
+        Due.due("8 what stood there before is gone", Due.rule(y, 0, "out k="), -16);
         String longest = "out k=1";
         for (int i = 0; i < 23; i++) {
             longest += "&k=1";

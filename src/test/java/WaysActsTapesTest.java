@@ -246,6 +246,9 @@ public final class WaysActsTapesTest {
         Due.due("29 bytes", x.count(2), 6);
         Due.due("29 rules of land 0", x.count(3), 3);
         Due.due("29 bodies", x.count(4), 4);
+        HeardWords y = new HeardWords();
+        Due.rule(y, 0, "out k=1");
+        Due.due("29 one rule of land 0", y.count(3), 1);
         Due.due("29 what", x.count(5), -2);
         Due.due("29 what", x.count(-1), -2);
     }
