@@ -1148,7 +1148,7 @@ public final class HeardWords {
             if (letter <= LAST_COMPARED) {
                 sign = pick(SIGNS);
             } else {
-                expectAll("=");
+                pick("=");
             }
             int test = 3 * letter + sign;
             int figure = pick(FIGURES);
