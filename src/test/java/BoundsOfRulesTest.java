@@ -19,6 +19,7 @@ public final class BoundsOfRulesTest {
         theLongestText();
         figuresBeyondWhatThereIs();
         heardBeforeAboutABound();
+        noneWasHeardElsewhere();
         needsOfFacts();
         judge();
         judgeOfTen();
@@ -344,6 +345,41 @@ public final class BoundsOfRulesTest {
         }
         Bounds.rule(x, 0, "out k=1;in " + all + test);
         return x.plan(told, 0, -1);
+    }
+
+    /** But for PLAN and OPENED none was heard before, though all words are heard and by one person. */
+    private static void noneWasHeardElsewhere() {
+        HeardWords x = new HeardWords();
+        x.word(0, 0, 1);
+        x.word(2, 0, 2);
+        x.hold(1, 0);
+        Bounds.rule(x, 0, "out h>0;in h>0&k=1");
+        Bounds.rule(x, 0, "may h>0;need 9 !h=0");
+        Bounds.rule(x, 1, "out h<1;in h>1");
+        x.tape(0, 0, 4);
+        for (int i = 0; i < 4; i++) {
+            x.item(0, i, -1);
+        }
+        for (int again = 0; again < 2; again++) {
+            Due.due("10 no rule meets it", x.meets(0, 1, 0, 0), 0);
+            Due.due("11 heard", x.heard(1, 0, 0), 1);
+            Due.due("12 not kept out", x.why(1, 0, 0), Bounds.MISSING);
+            Due.due("13 heard", x.least(1, 0, 0, 0), 0);
+            Due.due("14 to all ends", x.ends(1, 0), 15);
+            Due.due("14 to none", x.ends(1, 1), 0);
+            Due.due("15 nothing to cut", x.cut(1, 0, 0, 0), 0);
+            Due.due("17 both", x.proved(0), 3);
+            Due.due("17 none", x.proved(1), 0);
+            Due.due("18 the first", x.needed(1, 0), 1);
+            Due.due("20 no clash", x.clash(0, 0, 0), 0);
+            Due.due("21 all are silent", x.silent(0, 0), 3);
+            Due.due("21 none is silent", x.silent(0, 1), 0);
+            Due.due("22 nothing hangs on it", x.hangs(1), 0);
+            Due.due("24 land 0 alone", x.beside(0, 0), 3);
+            Due.due("25 no way", x.way(0, 0, 1, 0, 0), 4);
+            Due.due("16 in OPENED one was", x.opened(0, 0), 0);
+            Due.due("19 in PLAN one was", x.plan(3, 0, -1), 0);
+        }
     }
 
     private static void needsOfFacts() {
